@@ -37,7 +37,7 @@ public final class TellFirst {
     private final Fraction fraction = new Fraction();
     private final Net net = new Net();
     private final Net draft = new Net();
-    private final NetReader reader = new NetReader();
+    private final NetReader reader = new NetReader(tape, draft);
     private final Lots lots = new Lots(net);
     private final Chooser chooser = new Chooser(net, lots);
     private final TwoRounds twoRounds = new TwoRounds(net, lots);
@@ -174,7 +174,7 @@ public final class TellFirst {
             return NONE;
         }
         taped = 0;
-        reader.readAll(tape, n, draft);
+        reader.readAll(n);
         faultKind = reader.faultKind;
         faultPlace = reader.faultPlace;
         if (fails(faultKind != 0 ? FAULTY : FINE)) {
@@ -322,7 +322,8 @@ public final class TellFirst {
         if (fails(choiceStatus(many, purse))) {
             return false;
         }
-        fraction.become(chooser.boundTotal(many, purse), lots.whole());
+        int set = chooser.oneByOne(many, purse);
+        fraction.become(chooser.withGrowths(set, many), lots.whole());
         return true;
     }
 
@@ -756,34 +757,68 @@ public final class TellFirst {
         private static final int TOLD_TWICE = 5;
         private static final int ONE_TOO_MANY = 6;
 
+        // The words that are no names, each with a blank behind it, as their kinds are numbered.
+        private static final String WORDS =
+            "person tie to odds valley most in needs late stubborn costs hours back ";
+        private static final int MANY_WORDS = 13;
+
+        // A word is known by one number, so many bits a letter: that of a longest name fits in a long.
+        private static final int LETTER_BITS = 5;
         private static final int LONGEST_NAME = 8;
         private static final int LONGEST_NUMBER = 3;
 
+        private final long[] words = new long[MANY_WORDS];
         private final long[] names = new long[MOST_PEOPLE];
-        private byte[] text;
+        private final byte[] text;
+        private final Net made;
         private int length;
         private int start;
         private int end;
         private int kind;
         private int number;
         private long name;
-        private Net made;
         private int valleysTold;
         private int faultKind;
         private int faultPlace;
 
-        void readAll(byte[] bytes, int many, Net into) {
-            text = bytes;
-            length = Math.min(many, bytes.length);
+        NetReader(byte[] ofText, Net toMake) {
+            text = ofText;
+            made = toMake;
+            int word = 0;
+            for (int i = 0; i < WORDS.length() && word < MANY_WORDS; i++) {
+                if (WORDS.charAt(i) == ' ') {
+                    word++;
+                } else {
+                    words[word] = words[word] << LETTER_BITS | WORDS.charAt(i) - 'a' + 1;
+                }
+            }
+        }
+
+        /** Reads the first bytes of the text, so many. */
+        void readAll(int many) {
+            length = Math.min(many, text.length);
             end = 0;
-            made = into;
             made.empty();
             valleysTold = 0;
             faultKind = 0;
             faultPlace = NONE;
             advance();
             for (int part = 0; part < MOST_BYTES && goesOn() && kind != END; part++) {
-                readPart();
+                switch (kind) {
+                    case PERSON:
+                        readPerson();
+                        break;
+                    case TIE:
+                        readTie();
+                        break;
+                    case VALLEY:
+                        readValley();
+                        break;
+                    default:
+                        fail(MISPLACED);
+                        break;
+                }
+                pass(SIGN);
             }
         }
 
@@ -792,28 +827,10 @@ public final class TellFirst {
         }
 
         private void fail(int what) {
-            if (goesOn()) {
+            if (faultKind == 0) {
                 faultKind = what;
                 faultPlace = start;
             }
-        }
-
-        private void readPart() {
-            switch (kind) {
-                case PERSON:
-                    readPerson();
-                    break;
-                case TIE:
-                    readTie();
-                    break;
-                case VALLEY:
-                    readValley();
-                    break;
-                default:
-                    fail(MISPLACED);
-                    break;
-            }
-            pass(SIGN);
         }
 
         private void readPerson() {
@@ -825,10 +842,10 @@ public final class TellFirst {
             } else if (made.isFullOfPeople()) {
                 fail(ONE_TOO_MANY);
             }
-            if (!goesOn()) {
+            int person = goesOn() ? made.addPerson() : NONE;
+            if (person == NONE) {
                 return;
             }
-            int person = made.addPerson();
             names[person] = name;
             advance();
             int had = 0;
@@ -983,14 +1000,15 @@ public final class TellFirst {
                 start++;
             }
             end = start;
+            byte first = start < length ? text[start] : 0;
             if (start == length) {
                 kind = END;
-            } else if (isLetter(text[start])) {
+            } else if (first >= 'a' && first <= 'z') {
                 takeWord();
-            } else if (isDigit(text[start])) {
+            } else if (first >= '0' && first <= '9') {
                 takeNumber();
             } else {
-                kind = text[start] == ';' ? SIGN : BAD;
+                kind = first == ';' ? SIGN : BAD;
                 end = start + 1;
             }
             if (kind == BAD) {
@@ -998,17 +1016,9 @@ public final class TellFirst {
             }
         }
 
-        private static boolean isLetter(byte b) {
-            return b >= 'a' && b <= 'z';
-        }
-
-        private static boolean isDigit(byte b) {
-            return b >= '0' && b <= '9';
-        }
-
         private void takeNumber() {
             number = 0;
-            while (end < length && isDigit(text[end])) {
+            while (end < length && text[end] >= '0' && text[end] <= '9') {
                 // Digits past the longest number don't count: it is no token then.
                 if (end - start < LONGEST_NUMBER) {
                     number = number * 10 + text[end] - '0';
@@ -1020,68 +1030,19 @@ public final class TellFirst {
 
         private void takeWord() {
             name = 0;
-            while (end < length && isLetter(text[end])) {
-                // Five bits a letter: two names are the same if these are.
-                name = name << 5 | text[end] - 'a' + 1;
+            while (end < length && text[end] >= 'a' && text[end] <= 'z') {
+                name = name << LETTER_BITS | text[end] - 'a' + 1;
                 end++;
             }
-            kind = end - start <= LONGEST_NAME ? wordKind() : LONG_WORD;
-        }
-
-        private int wordKind() {
-            if (spells("person")) {
-                return PERSON;
-            }
-            if (spells("tie")) {
-                return TIE;
-            }
-            if (spells("to")) {
-                return TO;
-            }
-            if (spells("odds")) {
-                return ODDS;
-            }
-            if (spells("valley")) {
-                return VALLEY;
-            }
-            if (spells("most")) {
-                return MOST;
-            }
-            return traitKind();
-        }
-
-        private int traitKind() {
-            if (spells("in")) {
-                return IN;
-            }
-            if (spells("needs")) {
-                return NEEDS;
-            }
-            if (spells("late")) {
-                return LATE;
-            }
-            if (spells("stubborn")) {
-                return STUBBORN;
-            }
-            if (spells("costs")) {
-                return COSTS;
-            }
-            if (spells("hours")) {
-                return HOURS;
-            }
-            return spells("back") ? BACK : NAME;
-        }
-
-        private boolean spells(String word) {
-            if (end - start != word.length()) {
-                return false;
-            }
-            for (int i = 0; i < word.length(); i++) {
-                if (text[start + i] != word.charAt(i)) {
-                    return false;
+            kind = LONG_WORD;
+            if (end - start <= LONGEST_NAME) {
+                kind = NAME;
+                for (int i = 0; i < MANY_WORDS; i++) {
+                    if (words[i] == name) {
+                        kind = PERSON + i;
+                    }
                 }
             }
-            return true;
         }
     }
 
@@ -1295,8 +1256,8 @@ public final class TellFirst {
             return true;
         }
 
-        long boundTotal(int many, int purse) {
-            int set = oneByOne(many, purse);
+        /** The total of the set chosen last, and so many greatest growths by one more. */
+        long withGrowths(int set, int many) {
             for (int p = 0; p < net.people; p++) {
                 growths[p] = has(set, p) ? 0 : lots.total(set | 1 << p, 0) - total;
             }
@@ -1443,6 +1404,7 @@ public final class TellFirst {
         private int open;
         private int decided;
         private int red;
+        private int redTies;
         private int took;
         private int told;
         private int sent;
@@ -1457,6 +1419,7 @@ public final class TellFirst {
             open = openTies;
             decided = reds;
             red = reds;
+            redTies = net.tiesFrom(reds);
             took = 0;
             told = 0;
             sent = 0;
@@ -1488,10 +1451,10 @@ public final class TellFirst {
 
         private void decide(int person, int hour) {
             int heard = net.into[person] & told;
-            int heardRed = heard & net.tiesFrom(red);
             decided |= 1 << person;
-            if (2 * Integer.bitCount(heardRed) >= Integer.bitCount(heard)) {
+            if (2 * Integer.bitCount(heard & redTies) >= Integer.bitCount(heard)) {
                 red |= 1 << person;
+                redTies |= net.outOf[person];
             }
             takersAhead[(hour + net.late[person]) % ROUND] |= 1 << person;
         }
