@@ -122,6 +122,9 @@ public final class FightTest {
         x = Checks.made("person a;person b;person c;tie a to c odds 16 hours 2;tie b to c odds 16;");
         checks.due(x, "in hour 0 alone", x.latest(1, 1), 0, 0);
         checks.due(x, "against another", x.latest(2, 2), 1, 0);
+        x = Checks.made("person a;person b;person c;person d;person e;tie b to c odds 16;tie c to e odds 16;"
+            + "tie b to d odds 16 hours 2;tie a to d odds 16;");
+        checks.due(x, "none but that one is blue", x.latest(2, 2), 1, 0);
         x = Checks.made("person a;person b;tie a to b odds 15 hours 4;");
         checks.due(x, "not half", x.latest(1, 1), -1, 9);
     }
