@@ -168,6 +168,12 @@ final class ChosenEdges {
         x = Checks.made("person a;");
         e.insideFraction(x, "of one alone, none is chosen", x.bound(4, 0), 1, 1);
         e.outsideFraction(x, "of one alone, it is chosen", x.bound(4, 1), 1, 1);
+        // Twelve people: a reaches six, the twelfth itself, each other one adds a half.
+        x = Checks.made(Edges.people(12) + Edges.star(10, 8));
+        e.insideFraction(x, "greedy of a full net", x.greedy(4, 9), 1 | 2 | 4 | 2048, 8, 1);
+        e.insideFraction(x, "best of a full net", x.best(4, 9), 1 | 2 | 4 | 2048, 8, 1);
+        e.insideFraction(x, "bound of a full net", x.bound(4, 9), 10, 1);
+        e.insideFraction(x, "bound of a full net, none is chosen", x.bound(4, 0), 9, 1);
     }
 
     private void boundForBest() {
