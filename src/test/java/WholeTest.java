@@ -8,7 +8,7 @@ import java.util.Random;
 
 /**
  * Random runs of calls of all kinds on one object, with right and wrong numbers in any state, each answer held against
- * Document.java, the whole object written once more from the document alone. Arguments: how many objects, a seed.
+ * Document.java, the whole object written once more by the document. Arguments: how many objects, a seed.
  */
 public final class WholeTest {
     private static final Checks checks = new Checks("WholeTest");
